@@ -1,0 +1,70 @@
+/** Makes objects and texts for the tests. */
+final class Make {
+    private Make() {
+    }
+
+    /** Stations that can use all channels, with the values 100, 200, .. and the weight 10, and these conflicts. */
+    static SpectrumReallocator stations(int number, String conflicts) {
+        SpectrumReallocator made = new SpectrumReallocator();
+        for (int station = 0; station < number; station++) {
+            made.addStation(255, 100 * (station + 1), 10);
+        }
+        conflicts(made, conflicts);
+        return made;
+    }
+
+    /** Appends a text, four characters a call, and returns how many the buffer has. */
+    static int text(SpectrumReallocator object, String text) {
+        int length = 0;
+        for (int from = 0; from < text.length(); from += 4) {
+            length = object.append(packed(text.substring(from, Math.min(from + 4, text.length()))));
+        }
+        return length;
+    }
+
+    static int packed(String upToFour) {
+        int packed = 0;
+        for (int i = 0; i < upToFour.length(); i++) {
+            packed = packed << 8 | upToFour.charAt(i);
+        }
+        return packed;
+    }
+
+    /** Sets conflicts, as many pairs a call as the buffer holds. */
+    static void conflicts(SpectrumReallocator object, String text) {
+        if (text.isEmpty()) {
+            return;
+        }
+        StringBuilder part = new StringBuilder();
+        for (String pair : text.split(";")) {
+            if (part.length() + 1 + pair.length() > 40) {
+                text(object, part.toString());
+                object.setConflicts();
+                part.setLength(0);
+            }
+            part.append(part.length() == 0 ? "" : ";").append(pair);
+        }
+        text(object, part.toString());
+        object.setConflicts();
+    }
+
+    /** The text of all conflicts. */
+    static String conflictsOf(SpectrumReallocator object) {
+        StringBuilder text = new StringBuilder();
+        int length = object.conflicts(-1);
+        for (int i = 0; i < length; i++) {
+            text.append((char) object.conflicts(i));
+        }
+        return text.toString();
+    }
+
+    /** The channels of the first stations in the kept assignment, a sign each, "-" for none. */
+    static String keptOf(SpectrumReallocator object) {
+        StringBuilder kept = new StringBuilder();
+        for (int station = 0; station < object.count(0); station++) {
+            int channel = object.station(station, 5);
+            kept.append(channel == -1 ? "-" : Integer.toString(channel));
+        }
+        return kept.toString();
+    }
+}
