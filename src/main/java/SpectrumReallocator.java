@@ -28,15 +28,16 @@ public final class SpectrumReallocator {
     private static final int NO_ERROR = -1;
     private static final int NOT_BLOCKED = -1;
 
-    private final Market market = new Market();
+    // The helpers make what they work on themselves, so that no constructor hands out anything of its object.
+    private final Chooser chooser = new Chooser();
+    private final Packer packer = chooser.packer;
+    private final Market market = packer.market;
+    private final ConflictReader reader = new ConflictReader();
+    private final Text buffer = reader.text;
+    private final Text description = new Text();
     private final Auction auction = new Auction();
     private final Market savedMarket = new Market();
     private final Auction savedAuction = new Auction();
-    private final Packer packer = new Packer(market);
-    private final Chooser chooser = new Chooser(market, packer);
-    private final Text buffer = new Text(BUFFER_LENGTH);
-    private final Text description = new Text(TEXT_LENGTH);
-    private final ConflictReader reader = new ConflictReader(buffer);
     private final int[] ranking = new int[STATIONS];
     private boolean hasSaved = false;
     private int lastError = NO_ERROR;
@@ -836,7 +837,7 @@ public final class SpectrumReallocator {
 
     /** Finds assignments of sets of stations. */
     private static final class Packer {
-        private final Market market;
+        private final Market market = new Market();
         // The channels that each station may have in the next search.
         private final int[] allowed = new int[STATIONS];
         // Rows by the depth of the search, made once: the channels left to each station, the stations that can still
@@ -850,10 +851,6 @@ public final class SpectrumReallocator {
         // What was found about a set: twice the version in which it was found, plus 1 if the set is feasible.
         private final int[] verdicts = new int[SETS];
         private int version = 1;
-
-        private Packer(Market market) {
-            this.market = market;
-        }
 
         /** Must be called when stations, conflicts or available channels have changed. */
         private void forget() {
@@ -1098,15 +1095,10 @@ public final class SpectrumReallocator {
 
     /** Finds the feasible set with the greatest value. */
     private static final class Chooser {
-        private final Market market;
-        private final Packer packer;
+        private final Packer packer = new Packer();
+        private final Market market = packer.market;
         private int bestFound = 0;
         private int bestValue = 0;
-
-        private Chooser(Market market, Packer packer) {
-            this.market = market;
-            this.packer = packer;
-        }
 
         private int bestSet() {
             bestFound = market.stayers();
@@ -1141,12 +1133,8 @@ public final class SpectrumReallocator {
 
     /** Characters in a fixed row. */
     private static final class Text {
-        private final char[] characters;
+        private final char[] characters = new char[TEXT_LENGTH];
         private int length = 0;
-
-        private Text(int capacity) {
-            characters = new char[capacity];
-        }
 
         private void put(char character) {
             if (length < characters.length) {
@@ -1171,17 +1159,13 @@ public final class SpectrumReallocator {
 
     /** Reads conflicts from a text into rows of its own, so that an error leaves the market as it was. */
     private static final class ConflictReader {
-        private final Text text;
+        private final Text text = new Text();
         private final int[] same = new int[STATIONS];
         private final int[] next = new int[STATIONS];
         private int size = 0;
         private int position = 0;
         private int pairs = 0;
         private int error = NO_ERROR;
-
-        private ConflictReader(Text text) {
-            this.text = text;
-        }
 
         /** Returns the error position. */
         private int read(Market market) {

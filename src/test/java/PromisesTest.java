@@ -133,6 +133,10 @@ final class PromisesTest {
             Check.dueNumber("2: number", x.addStation(number, number, number), number);
         }
         Check.dueNumber("2: stations", x.count(0), 12);
+        SpectrumReallocator more = Make.stations(2, "0-1c");
+        Check.dueNumber("2: assignments before", more.assignments(3), 56);
+        more.addStation(255, 1, 1);
+        Check.dueNumber("2: assignments with one more", more.assignments(7), 448);
         int[][] wrong = {{256, 1, 1}, {-1, 1, 1}, {LEAST, 1, 1}, {1, -1, 1}, {1, 10000, 1}, {1, 1, 0}, {1, 1, 100},
             {1, 1, -1}, {1, LEAST, 1}, {1, 1, MOST}};
         for (int[] w : wrong) {
@@ -265,6 +269,8 @@ final class PromisesTest {
         Check.dueNumber("8: its position", x.errorPosition(), 0);
         Check.due("8: feasibility follows", Make.stations(2, "").isFeasible(3), true);
         Check.refused("8: in an auction", UNSUPPORTED, PromisesTest::bidding, SpectrumReallocator::setConflicts);
+        Check.refused("8: an error in an auction", UNSUPPORTED, PromisesTest::rivals,
+                SpectrumReallocator::setConflicts);
         SpectrumReallocator y = bidding();
         Check.throwing("8: in an auction", UNSUPPORTED, y::setConflicts);
         Check.dueNumber("8: the buffer stays", y.count(6), 4);
@@ -1185,6 +1191,17 @@ final class PromisesTest {
         y.restore();
         Check.dueNumber("39: its rounds", y.back(0), 2);
         Check.due("39: round 0", auctionOf(y), "0 30 0 3 0");
+        SpectrumReallocator z = rivals();
+        z.run(10);
+        z.save();
+        z.cancel();
+        z.setValue(1, 0);
+        read(z, "0-1");
+        z.open(1);
+        z.run(10);
+        Check.throwing("39: frozen at the base price 0", ELEMENT, () -> z.frozenBy(1));
+        z.restore();
+        Check.dueNumber("39: the reason why one was frozen", z.frozenBy(1), 1);
         Check.refused("39: nothing saved", STATE, PromisesTest::rivals, SpectrumReallocator::restore);
         Check.refused("39: nothing saved, no stations", STATE, SpectrumReallocator::new, SpectrumReallocator::restore);
     }
