@@ -1176,7 +1176,7 @@ public final class SpectrumReallocator {
             pairs = 0;
             error = NO_ERROR;
             boolean more = true;
-            while (more && pairs < BUFFER_LENGTH) {
+            for (int pair = 0; pair < BUFFER_LENGTH && more; pair++) {
                 more = readPair() && readSeparator();
             }
             return error;

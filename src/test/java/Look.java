@@ -1,87 +1,148 @@
-import java.util.concurrent.Callable;
-
-/** Writes down all that an object answers. It is used up by that, and asked some 500 times at most. */
+/**
+ * Writes down all that an object, or a model, answers. It is used up by that: what is hidden in it, as the text in the
+ * buffer, earlier rounds and what was saved, shows only in what is done with it.
+ */
 final class Look {
-    private final SpectrumReallocator object;
-    private final StringBuilder seen = new StringBuilder();
+    // The document promises nothing after the 512th call, and a scene of some 90 calls comes before.
+    private static final int MOST_CALLS = 420;
 
-    private Look(SpectrumReallocator object) {
+    private final Object object;
+    private final StringBuilder seen = new StringBuilder();
+    private int calls = 0;
+
+    private Look(Object object) {
         this.object = object;
     }
 
-    static String at(SpectrumReallocator object) {
+    static String at(Object object) {
         Look look = new Look(object);
+        look.lookAtCounts();
         look.lookAtStations();
         look.lookAtAuction();
+        look.lookAtEvents();
         look.lookAtResults();
-        look.lookAtWhatIsHidden();
+        look.lookAtConflicts();
+        look.lookAtEarlierRounds();
+        look.lookAtBuffer();
+        look.lookAtWhatWasSaved();
         return look.seen.toString();
     }
 
-    private void ask(String what, Callable<Object> call) {
-        Object answer;
-        try {
-            answer = call.call();
-        } catch (Throwable thrown) {
-            answer = thrown.getClass().getSimpleName();
+    private Object ask(String name, Object... arguments) {
+        if (calls >= MOST_CALLS) {
+            return "not asked";
         }
-        seen.append(what).append('=').append(answer).append(' ');
+        calls++;
+        Object answer = Calls.answer(object, name, arguments);
+        seen.append(name);
+        for (Object argument : arguments) {
+            seen.append(' ').append(argument);
+        }
+        seen.append('=').append(answer).append('\n');
+        return answer;
+    }
+
+    private int number(String name, Object... arguments) {
+        Object answer = ask(name, arguments);
+        return answer instanceof Integer ? (Integer) answer : -1;
+    }
+
+    private void lookAtCounts() {
+        for (int what = 0; what <= 7; what++) {
+            ask("count", what);
+        }
+        ask("errorPosition");
+    }
+
+    private int stations() {
+        return number("count", 0);
     }
 
     private void lookAtStations() {
-        for (int what = 0; what <= 7; what++) {
-            int number = what;
-            ask("count" + what, () -> object.count(number));
-        }
-        ask("error", object::errorPosition);
-        ask("text", () -> Make.conflictsOf(object));
-        for (int station = 0; station < object.count(0); station++) {
-            int number = station;
+        int size = stations();
+        for (int station = 0; station < size; station++) {
             for (int what = 0; what <= 5; what++) {
-                int property = what;
-                ask("s" + station + "." + what, () -> object.station(number, property));
+                ask("station", station, what);
             }
         }
     }
 
     private void lookAtAuction() {
-        for (int what = 0; what <= 6; what++) {
-            int number = what;
-            ask("auction" + what, () -> object.auction(number));
+        if (number("auction", 0) < 0) {
+            return;
         }
-        for (int station = 0; station < object.count(0); station++) {
-            int number = station;
-            ask("state" + station, () -> object.state(number));
-            ask("price" + station, () -> object.price(number));
-            ask("frozenBy" + station, () -> object.frozenBy(number));
-            ask("event" + station, () -> object.event(number));
+        for (int what = 1; what <= 6; what++) {
+            ask("auction", what);
         }
-        ask("mean", object::meanPriceBits);
-        ask("efficiency", object::efficiencyBits);
+        int size = stations();
+        for (int station = 0; station < size; station++) {
+            ask("price", station);
+            ask("frozenBy", station);
+        }
+    }
+
+    private void lookAtEvents() {
+        int index = 0;
+        while (number("event", index) >= 0) {
+            index++;
+        }
+        int rank = 0;
+        while (number("order", rank) >= 0) {
+            rank++;
+        }
     }
 
     private void lookAtResults() {
-        int everyone = (1 << object.count(0)) - 1;
-        ask("best", object::best);
-        ask("loss", object::leastLoss);
-        ask("feasible", () -> object.isFeasible(everyone));
-        ask("assignments", () -> object.assignments(everyone));
+        int everyone = (1 << stations()) - 1;
+        ask("best");
+        ask("leastLoss");
+        ask("efficiencyBits");
+        ask("meanPriceBits");
+        ask("isFeasible", everyone);
+        ask("assignments", everyone);
     }
 
-    /** The text in the buffer, what is saved and the earlier rounds show only in what is done with them. */
-    private void lookAtWhatIsHidden() {
-        ask("back", () -> object.back(0));
-        ask("base", () -> object.auction(1));
-        ask("bidding", () -> object.auction(3));
-        ask("cancel", object::cancel);
-        ask("set", object::setConflicts);
-        ask("error", object::errorPosition);
-        ask("text", () -> Make.conflictsOf(object));
-        ask("restore", object::restore);
-        for (int what = 0; what <= 7; what++) {
-            int number = what;
-            ask("restored" + what, () -> object.count(number));
-            ask("auction" + what, () -> object.auction(number));
+    private void lookAtConflicts() {
+        int length = number("conflicts", -1);
+        for (int index = 0; index < length && index < 60; index++) {
+            ask("conflicts", index);
         }
+    }
+
+    private void lookAtEarlierRounds() {
+        int present = number("auction", 0);
+        int size = Math.min(stations(), 3);
+        for (int round = present; round >= 0; round = round > 4 ? round / 2 : round - 1) {
+            ask("back", round);
+            for (int what = 1; what <= 4; what++) {
+                ask("auction", what);
+            }
+            for (int station = 0; station < size; station++) {
+                ask("price", station);
+            }
+        }
+        ask("cancel");
+        ask("setAvailable", 255);
+    }
+
+    private void lookAtBuffer() {
+        ask("setConflicts");
+        ask("errorPosition");
+        ask("count", 1);
+        ask("count", 2);
+        lookAtConflicts();
+    }
+
+    private void lookAtWhatWasSaved() {
+        if (number("restore") < 0) {
+            return;
+        }
+        lookAtCounts();
+        lookAtAuction();
+        ask("event", 0);
+        ask("cancel");
+        ask("setAvailable", 255);
+        lookAtStations();
+        lookAtConflicts();
     }
 }

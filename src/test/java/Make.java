@@ -1,3 +1,6 @@
+import java.util.ArrayList;
+import java.util.List;
+
 /** Makes objects and texts for the tests. */
 final class Make {
     private Make() {
@@ -32,20 +35,38 @@ final class Make {
 
     /** Sets conflicts, as many pairs a call as the buffer holds. */
     static void conflicts(SpectrumReallocator object, String text) {
-        if (text.isEmpty()) {
-            return;
+        for (String part : parts(text)) {
+            text(object, part);
+            object.setConflicts();
         }
-        StringBuilder part = new StringBuilder();
+    }
+
+    /** A text of conflicts in parts that the buffer holds. */
+    static List<String> parts(String text) {
+        List<String> parts = new ArrayList<>();
+        String part = "";
         for (String pair : text.split(";")) {
             if (part.length() + 1 + pair.length() > 40) {
-                text(object, part.toString());
-                object.setConflicts();
-                part.setLength(0);
+                parts.add(part);
+                part = "";
             }
-            part.append(part.length() == 0 ? "" : ";").append(pair);
+            part += part.isEmpty() ? pair : ";" + pair;
         }
-        text(object, part.toString());
-        object.setConflicts();
+        if (!part.isEmpty()) {
+            parts.add(part);
+        }
+        return parts;
+    }
+
+    /** All pairs of the first stations. */
+    static String pairs(int stations, String kinds) {
+        StringBuilder text = new StringBuilder();
+        for (int one = 0; one < stations; one++) {
+            for (int other = one + 1; other < stations; other++) {
+                text.append(text.length() == 0 ? "" : ";").append(one).append('-').append(other).append(kinds);
+            }
+        }
+        return text.toString();
     }
 
     /** The text of all conflicts. */

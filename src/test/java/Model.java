@@ -87,6 +87,15 @@ public final class Model {
     public Model() {
     }
 
+    Model copy() {
+        Model copy = new Model();
+        copy.world = world.copy();
+        copy.saved = saved == null ? null : saved.copy();
+        copy.buffer = buffer;
+        copy.error = error;
+        return copy;
+    }
+
     // Stations and conflicts
 
     public int addStation(int channels, int value, int weight) {
@@ -330,7 +339,7 @@ public final class Model {
 
     public int assignments(int stations) {
         known(stations);
-        return countFrom(0, stations, new int[12], 1000);
+        return lacksChannels(stations, world.available) ? 0 : countFrom(0, stations, new int[12], 1000);
     }
 
     public int channelsNeeded(int stations) {
@@ -711,7 +720,18 @@ public final class Model {
     private int[] first(int stations, int available, int[] wanted, int fixed) {
         int[] made = new int[size()];
         Arrays.fill(made, -1);
-        return fillFrom(0, stations, available, wanted, fixed, made) ? made : null;
+        boolean found = !lacksChannels(stations, available) && fillFrom(0, stations, available, wanted, fixed, made);
+        return found ? made : null;
+    }
+
+    /** Told before all others are tried in vain, when a late station has no channel at all. */
+    private boolean lacksChannels(int stations, int available) {
+        for (int s = 0; s < size(); s++) {
+            if ((stations >> s & 1) == 1 && (get(s).channels & available) == 0) {
+                return true;
+            }
+        }
+        return false;
     }
 
     private boolean fillFrom(int s, int stations, int available, int[] wanted, int fixed, int[] made) {

@@ -46,7 +46,8 @@ final class ModelTest {
         for (int i = 0; i < wantedSize / 3; i++) {
             describe();
         }
-        int number = 100 + random.nextInt(Pair.MOST_CALLS - 200);
+        // Some runs go on to the last call for which there are promises.
+        int number = random.nextInt(8) == 0 ? Pair.MOST_CALLS : 100 + random.nextInt(Pair.MOST_CALLS - 200);
         while (pair.size() < number && !pair.isWrong()) {
             step();
         }

@@ -1,13 +1,11 @@
-import java.lang.reflect.InvocationTargetException;
-import java.lang.reflect.Method;
 import java.util.ArrayList;
 import java.util.Arrays;
 import java.util.List;
 
 /** An object and a model, on which the same calls are made; it stops at the first answers that are not the same. */
 final class Pair {
-    /** The document promises nothing after 512. */
-    static final int MOST_CALLS = 500;
+    /** The document promises nothing after these. */
+    static final int MOST_CALLS = 512;
 
     final SpectrumReallocator tested = new SpectrumReallocator();
     final Model model = new Model();
@@ -31,28 +29,13 @@ final class Pair {
         if (wrong || calls.size() >= MOST_CALLS) {
             return;
         }
-        Object got = answer(tested, name, arguments);
-        Object due = answer(model, name, arguments);
+        Object got = Calls.answer(tested, name, arguments);
+        Object due = Calls.answer(model, name, arguments);
         calls.add(name + Arrays.toString(arguments) + " -> " + got);
         if (!got.equals(due)) {
             wrong = true;
             System.out.println(title + ", due is " + due + ":");
             calls.forEach(System.out::println);
-        }
-    }
-
-    private static Object answer(Object object, String name, Object[] arguments) {
-        Class<?>[] types = new Class<?>[arguments.length];
-        for (int i = 0; i < types.length; i++) {
-            types[i] = arguments[i] instanceof Boolean ? boolean.class : int.class;
-        }
-        try {
-            Method method = object.getClass().getMethod(name, types);
-            return method.invoke(object, arguments);
-        } catch (InvocationTargetException thrown) {
-            return thrown.getCause().getClass().getName();
-        } catch (ReflectiveOperationException missing) {
-            return missing.toString();
         }
     }
 }

@@ -58,50 +58,24 @@ final class PromisesTest {
 
     // Objects that several promises are tried on
 
-    /** Three stations with conflicts, a kept assignment, a text in the buffer, and something saved. */
     private static SpectrumReallocator quiet() {
-        SpectrumReallocator made = Make.stations(3, "0-1c;1-2ca");
-        made.save();
-        made.setValue(0, 77);
-        made.assign(3);
-        Make.text(made, "0-2a");
-        return made;
+        return Given.QUIET.made();
     }
 
-    /** The same in round 1 of an auction in which the stations 1 and 2 still bid, and station 0 does not take part. */
     private static SpectrumReallocator bidding() {
-        SpectrumReallocator made = quiet();
-        made.setParticipates(0, false);
-        made.setAvailable(3);
-        made.setValue(1, 9);
-        made.setValue(2, 9);
-        made.open(200);
-        made.round(20);
-        return made;
+        return Given.BIDDING.made();
     }
 
-    /** The same when the auction is over. */
     private static SpectrumReallocator over() {
-        SpectrumReallocator made = bidding();
-        made.run(100);
-        return made;
+        return Given.OVER.made();
     }
 
     private static SpectrumReallocator full() {
-        return Make.stations(12, "");
+        return Given.FULL.made();
     }
 
-    /**
-     * Two stations with the channel 0 alone, in conflict. Station 1 with the volume 19.8 is considered first. Station 0
-     * with the volume 2.0 goes on the air in round 1, with the base price 15, and station 1 is frozen in round 2.
-     */
     private static SpectrumReallocator rivals() {
-        SpectrumReallocator made = new SpectrumReallocator();
-        made.addStation(1, 31, 10);
-        made.addStation(1, 100, 99);
-        Make.conflicts(made, "0-1c");
-        made.open(30);
-        return made;
+        return Given.RIVALS.made();
     }
 
     // Promises 1 to 14: stations and conflicts
@@ -495,11 +469,11 @@ final class PromisesTest {
         Make.conflicts(edges, "0-1ca");
         Check.due("15: the first and the last channel are no neighbours", edges.isFeasible(3), true);
         SpectrumReallocator clique = full();
-        Make.conflicts(clique, pairs(12, "c"));
+        Make.conflicts(clique, Make.pairs(12, "c"));
         Check.due("15: eight in conflict", clique.isFeasible(0xff), true);
         Check.due("15: nine in conflict", clique.isFeasible(0x1ff), false);
         Check.due("15: another nine", clique.isFeasible(0xff8), false);
-        Make.conflicts(clique, pairs(5, "ca"));
+        Make.conflicts(clique, Make.pairs(5, "ca"));
         Check.due("15: four apart", clique.isFeasible(15), true);
         Check.due("15: five apart", clique.isFeasible(31), false);
         SpectrumReallocator none = new SpectrumReallocator();
@@ -597,7 +571,7 @@ final class PromisesTest {
         Check.dueNumber("18: both", x.assignments(3), 26);
         x.setAvailable(15);
         Check.dueNumber("18: available ones", x.assignments(3), 6);
-        SpectrumReallocator clique = Make.stations(5, pairs(5, "c"));
+        SpectrumReallocator clique = Make.stations(5, Make.pairs(5, "c"));
         Check.dueNumber("18: three in conflict", clique.assignments(7), 336);
         Check.dueNumber("18: more than 1000", clique.assignments(15), 1000);
         clique.setAvailable(0x7c);
@@ -620,7 +594,7 @@ final class PromisesTest {
         x.setAvailable(6);
         Check.throwing("19: not in two", STATE, () -> x.channelsNeeded(7));
         Check.throwing("19: not next to each other", STATE, () -> x.channelsNeeded(24));
-        SpectrumReallocator clique = Make.stations(9, pairs(9, "c"));
+        SpectrumReallocator clique = Make.stations(9, Make.pairs(9, "c"));
         Check.dueNumber("19: all eight", clique.channelsNeeded(0xff), 8);
         Check.throwing("19: nine", STATE, () -> clique.channelsNeeded(0x1ff));
         SpectrumReallocator y = new SpectrumReallocator();
@@ -1007,7 +981,7 @@ final class PromisesTest {
         y.setParticipates(1, false);
         Check.dueNumber("33: but that one", y.best(), 2);
         SpectrumReallocator clique = full();
-        Make.conflicts(clique, pairs(12, "c"));
+        Make.conflicts(clique, Make.pairs(12, "c"));
         Check.dueNumber("33: eight of twelve", clique.best(), 0xff0);
         for (int station = 0; station < 12; station++) {
             clique.setValue(station, 50);
@@ -1222,11 +1196,7 @@ final class PromisesTest {
     }
 
     private static SpectrumReallocator stuck() {
-        SpectrumReallocator made = quiet();
-        made.setAvailable(1);
-        made.setParticipates(0, false);
-        made.setParticipates(1, false);
-        return made;
+        return Given.STUCK.made();
     }
 
     private static SpectrumReallocator opened(SpectrumReallocator object, int base) {
@@ -1299,17 +1269,6 @@ final class PromisesTest {
         }
         Check.throwing(promise + ": set without stations", ARGUMENT, () -> call.on(tenth(), 2));
         Check.throwing(promise + ": set behind twelve", ARGUMENT, () -> call.on(full(), 4096));
-    }
-
-    /** All pairs of the first stations. */
-    private static String pairs(int stations, String kinds) {
-        StringBuilder text = new StringBuilder();
-        for (int one = 0; one < stations; one++) {
-            for (int other = one + 1; other < stations; other++) {
-                text.append(text.length() == 0 ? "" : ";").append(one).append('-').append(other).append(kinds);
-            }
-        }
-        return text.toString();
     }
 
     private static String properties(SpectrumReallocator object, int station) {
