@@ -1015,17 +1015,17 @@ public final class SpectrumReallocator {
             return rest;
         }
 
-        /** The station with the fewest channels left, and of several the one with the most neighbours. */
+        /** The station with the fewest channels left for its neighbours: there a dead end shows soonest. */
         private int tightest(int depth, int rest) {
             int chosen = 0;
             int fewest = CHANNELS + 1;
-            int most = 0;
+            int most = 1;
             for (int station = 0; station < market.size; station++) {
                 if (contains(rest, station)) {
                     int number = Integer.bitCount(left[depth][station]);
-                    int neighbours = Integer.bitCount(market.same[station] & rest)
+                    int neighbours = 1 + Integer.bitCount(market.same[station] & rest)
                             + 2 * Integer.bitCount(market.next[station] & rest);
-                    if (number < fewest || number == fewest && neighbours > most) {
+                    if (number * most < fewest * neighbours) {
                         chosen = station;
                         fewest = number;
                         most = neighbours;

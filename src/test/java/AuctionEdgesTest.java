@@ -24,6 +24,7 @@ final class AuctionEdgesTest {
 
     public static void main(String[] args) {
         openBase();
+        openedAgain();
         openRefused();
         priceThatEqualsAValue();
         roundDecrement();
@@ -61,6 +62,20 @@ final class AuctionEdgesTest {
         x.open(1000);
         Check.dueNumber("21: with round 0", x.auction(0), 0);
         Check.dueNumber("21: with the base price", x.auction(1), 1000);
+    }
+
+    /** Nothing of an earlier auction is left, whether it was closed or cancelled. */
+    private static void openedAgain() {
+        Scene closed = Scene.named("opened again").after(Given.CLOSED).call("open", 1000);
+        Scene cancelled = Scene.named("opened again").after(Given.OVER).call("cancel").call("open", 1000);
+        int[] due = {0, 1000, 1, 6, 0, 0, 0};
+        for (int what = 0; what <= 6; what++) {
+            Edges.of("21: another auction", "auction", closed, cancelled).allowed(due[what], what);
+        }
+        Edges.of("21: without events", "event", closed, cancelled).refused(ELEMENT, 0);
+        Edges.of("21: without earlier rounds", "back", closed, cancelled).allowed(2, 0).refused(INDEX, 1);
+        Edges.of("21: without reasons", "frozenBy", closed, cancelled).refused(ELEMENT, 2);
+        Edges.of("21: with new prices", "price", closed, cancelled).allowed(3000, 1).allowed(2000, 2);
     }
 
     private static void openRefused() {
@@ -217,6 +232,10 @@ final class AuctionEdgesTest {
                 .allowed(0, 3).refused(INDEX, 4);
         Edges.of("24: 0 up to the present one", "back", Given.LATE).refused(INDEX, -1).allowed(1, 0).allowed(1, 99)
                 .allowed(0, 100).refusedEach(INDEX, 101, 102, MOST);
+        Edges.of("24: all ten bid again", "back", Given.FULL_OVER).allowed(10, 0).allowed(0, 1).refused(INDEX, 2);
+        SpectrumReallocator x = Given.FULL_OVER.made();
+        x.back(0);
+        Check.due("24: everything is as it was then", Look.at(x), Look.at(Given.FULL_OPEN.made()));
         Edges.of("24: in round 0", "back", Given.RIVALS).refused(INDEX, -1).allowed(2, 0).refused(INDEX, 1);
         Edges.of("24: in round 0, over at once", "back", Given.EMPTY_OPEN, Given.NO_TAKER, Given.CROWDED)
                 .refused(INDEX, -1).allowed(0, 0).refused(INDEX, 1);
@@ -395,6 +414,13 @@ final class AuctionEdgesTest {
         Edges.of("32: among all stations that take part", "order", Given.BIDDING, Given.OVER, Given.CLOSED,
                 Given.CANCELLED).refused(ELEMENT, -1).allowed(1, 0).allowed(2, 1).refused(ELEMENT, 2);
         Edges.of("32: one station", "order", Given.ONE, Given.LATE).allowed(0, 0).refusedEach(ELEMENT, 1, -1);
+        SpectrumReallocator x = new SpectrumReallocator();
+        for (int station = 0; station < 12; station++) {
+            x.addStation(1, 1, 88 + station);
+        }
+        for (int rank = 0; rank < 12; rank++) {
+            Check.dueNumber("32: descending order of the volumes", x.order(rank), 11 - rank);
+        }
         Edges.of("32: if there is no such rank", "order", Given.NEW, Given.EMPTY_OPEN, Given.NO_TAKER)
                 .refusedEach(ELEMENT, 0, 1, -1, LEAST);
     }

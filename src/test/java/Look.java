@@ -3,8 +3,8 @@
  * buffer, earlier rounds and what was saved, shows only in what is done with it.
  */
 final class Look {
-    // The document promises nothing after the 512th call, and a scene of some 90 calls comes before.
-    private static final int MOST_CALLS = 420;
+    // The document promises nothing after the 512th call, and a scene of up to 150 calls comes before.
+    private static final int MOST_CALLS = 360;
 
     private final Object object;
     private final StringBuilder seen = new StringBuilder();

@@ -59,6 +59,17 @@ final class ResultEdgesTest {
         Edges.of("33: a sum that is greater by 1", "best", more).allowed(10);
         Scene less = Scene.named("without a value").after(equal).call("setValue", 0, 0).call("setValue", 2, 0);
         Edges.of("33: without those that add nothing", "best", less).allowed(10);
+        Scene one = Scene.named("a value of 1").after(less).call("setValue", 2, 1).call("setValue", 1, 0)
+                .call("setValue", 3, 0);
+        Edges.of("33: a value of 1 adds something", "best", one).allowed(4);
+        SpectrumReallocator x = equal.made();
+        Check.dueNumber("33: the best at first", x.best(), 5);
+        x.setValue(0, 0);
+        x.setValue(1, 1);
+        x.setValue(2, 0);
+        x.setValue(3, 0);
+        Check.dueNumber("33: a smaller best", x.best(), 2);
+        Check.dueNumber("34: a smaller loss", x.leastLoss(), 0);
         Scene stays = Scene.named("one stays without a value").after(less).call("setParticipates", 2, false);
         Edges.of("33: with all that do not take part", "best", stays).allowed(4);
     }
@@ -150,18 +161,30 @@ final class ResultEdgesTest {
         for (Scene scene : scenes) {
             SpectrumReallocator x = scene.made();
             x.save();
-            if (x.count(7) > 0) {
-                x.cancel();
-            }
-            while (x.count(0) > 0) {
-                x.removeStation();
-            }
-            x.setAvailable(0);
+            changeEverything(x);
             x.restore();
             Model due = scene.modelled();
             due.save();
             Check.due("39: everything is as it was, " + scene, Look.at(x), Look.at(due));
         }
+    }
+
+    /** Another auction with stations of which no property and no conflict is as before. */
+    private static void changeEverything(SpectrumReallocator x) {
+        if (x.count(7) > 0) {
+            x.cancel();
+        }
+        while (x.count(0) > 0) {
+            x.removeStation();
+        }
+        for (int station = 0; station < 12; station++) {
+            x.addStation(0x0c, station % 2 == 0 ? 0 : 7777 - station, 3 + 7 * station);
+        }
+        x.setAvailable(4);
+        x.assign(4095);
+        x.setParticipates(1, false);
+        x.open(3);
+        x.run(10);
     }
 
     private static void restore() {

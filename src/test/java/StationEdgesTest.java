@@ -22,6 +22,7 @@ final class StationEdgesTest {
         valueAndWeight();
         addStationRefused();
         removeStation();
+        removedConflicts();
         setParticipates();
         setValue();
         setAvailable();
@@ -64,6 +65,12 @@ final class StationEdgesTest {
         Edges.of("There are at most 12 stations", "addStation", Given.NEW).allowed(0, 1, 2, 3);
         Edges.of("There are at most 12 stations", "addStation", Given.ELEVEN).allowed(11, 1, 2, 3);
         Edges.of("2: if there are 12 stations", "addStation", Given.FULL).refused(STATE, 1, 2, 3);
+        SpectrumReallocator y = Given.FULL.made();
+        Check.due("3: the last one there", y.isFeasible(2048), true);
+        y.removeStation();
+        Check.throwing("3: not there any more", ARGUMENT, () -> y.isFeasible(2048));
+        Check.dueNumber("2: another last one", y.addStation(0, 2, 3), 11);
+        Check.due("2: without channels", y.isFeasible(2048), false);
         SpectrumReallocator x = Given.FULL.made();
         x.removeStation();
         Check.dueNumber("2: when one of 12 was removed", x.addStation(1, 2, 3), 11);
@@ -136,6 +143,19 @@ final class StationEdgesTest {
         Check.dueNumber("3: without a channel", x.station(0, 5), -1);
     }
 
+    private static void removedConflicts() {
+        SpectrumReallocator y = Make.stations(3, "0-2ca;1-2ca");
+        y.removeStation();
+        y.addStation(1, 1, 1);
+        Make.conflicts(y, "0-1ca");
+        Check.due("3: its conflicts do not come back", Make.conflictsOf(y), "0-1ca");
+        SpectrumReallocator z = Given.QUIET.made();
+        z.setConflicts();
+        z.restore();
+        Make.conflicts(z, "0-1");
+        Check.due("39: nor do those before it was restored", Make.conflictsOf(z), "1-2ca");
+    }
+
     private static void setParticipates() {
         Edges.of("4: if there is no such station", "setParticipates", Given.QUIET).refused(INDEX, -1, false)
                 .allowed(true, 0, false).allowed(true, 2, false).refused(INDEX, 3, false).refused(INDEX, LEAST, false)
@@ -147,6 +167,16 @@ final class StationEdgesTest {
                 .refused(UNSUPPORTED, 2, false);
         Edges.of("4: the exception listed first", "setParticipates", IN_AUCTION).refused(INDEX, -1, true)
                 .refused(INDEX, 3, false);
+        SpectrumReallocator x = Given.FULL.made();
+        for (int station = 0; station < 12; station++) {
+            Check.due("4: it does at first", x.setParticipates(station, false), true);
+            Check.dueNumber("4: one less", x.count(4), 11 - station);
+        }
+        for (int station = 11; station >= 0; station--) {
+            Check.due("4: whether it took part", x.setParticipates(station, true), false);
+            Check.dueNumber("4: one more", x.count(4), 12 - station);
+            Check.dueNumber("4: it takes part again", x.station(station, 3), 1);
+        }
         Edges.of("4: no auction any more", "setParticipates", Given.CLOSED, Given.CANCELLED).allowed(false, 0, true);
     }
 
@@ -373,11 +403,15 @@ final class StationEdgesTest {
 
     private static void wrongCharacters() {
         text(3, "/-1", 0);
-        text(3, ":-1", 0);
+        text(12, ":-1", 0);
+        text(12, ";-1", 0);
+        text(12, "<-1", 0);
+        text(12, "0-;", 2);
+        text(12, "1:-0", 1);
         text(3, "0,1", 1);
         text(3, "0.1", 1);
         text(3, "0-/", 2);
-        text(3, "0-:", 2);
+        text(12, "0-:", 2);
         text(3, "0-1b", 3);
         text(3, "0-1d", 3);
         text(3, "0-1C", 3);
